@@ -56,16 +56,54 @@ public final class ModelTest {
     }
 
     private String run() throws Exception {
-        String fault = buildEven();
+        int mode = random.nextInt(4);
+        String fault = mode == 3 && random.nextBoolean() ? buildSteep() : buildEven();
+        if (fault == null && mode == 2) fault = prepareThreads();
+        int building = mode == 0 ? 6 : 1;
+        int asking = mode == 2 ? 25 : 55;
         int calls = 60 + random.nextInt(200);
         for (int i = 0; i < calls && fault == null; i++) {
             int of = random.nextInt(100);
-            String[] names = of < 6 ? BUILDING : of < 55 ? ASKING : WORKING;
+            String[] names = of < building ? BUILDING : of < asking ? ASKING : WORKING;
             String name = names[random.nextInt(names.length)];
             fault = call(name, argsFor(name));
             if (fault == null && name.equals("schedule") && random.nextInt(3) == 0) fault = draftSchedule();
         }
         return fault == null ? call("digest") : fault;
+    }
+
+    /** PARTS in proportions that soon have great numbers. */
+    private String buildSteep() throws Exception {
+        int[] counts = {1, 1, 2, 3, 7, 10, 20, 25, 49, 50};
+        int parts = 2 + random.nextInt(8);
+        String fault = null;
+        for (int p = 0; p < parts && fault == null; p++) {
+            fault = call("part", random.nextInt(4) == 0 ? 4 : 0, 1L, 1 + random.nextInt(4));
+        }
+        int lines = 1 + random.nextInt(parts + 1);
+        for (int l = 0; l < lines && fault == null; l++) {
+            int a = random.nextInt(parts), b = random.nextInt(parts);
+            fault = call("line", a, counts[random.nextInt(10)], b, counts[random.nextInt(10)]);
+            if (fault == null) fault = call("round");
+            if (fault == null) fault = call("uneven");
+            if (fault == null) fault = call("firings", a);
+            if (fault == null) fault = call("schedule", 0);
+        }
+        return fault;
+    }
+
+    /** What sticks gets what it lacks; then THREADS have PARTS. */
+    private String prepareThreads() throws Exception {
+        String fault = call("stuck");
+        for (int l = 0; l < plain.lines.size() && fault == null; l++) {
+            int lack = plain.lacks(l);
+            int now = plain.ends(l, 4);
+            if (lack > 0 && now + lack <= 60) fault = call("first", l, now + lack);
+        }
+        for (int p = 0; p < plain.parts.size() && fault == null; p++) {
+            fault = call("deal", p, random.nextInt(4));
+        }
+        return fault == null ? call("schedule", random.nextInt(3)) : fault;
     }
 
     /** A GRAPH of which most LINES fit together; some runs begin with none. */
@@ -154,6 +192,7 @@ public final class ModelTest {
     }
 
     private int near(int count) {
+        if (random.nextInt(200) == 0) return random.nextBoolean() ? Integer.MAX_VALUE : Integer.MIN_VALUE + random.nextInt(2);
         return random.nextInt(15) == 0 ? random.nextInt(count + 3) - 1 : random.nextInt(Math.max(count, 1));
     }
 
@@ -178,11 +217,11 @@ public final class ModelTest {
             case "beat": return new Object[] {random.nextBoolean()};
             case "deal": return new Object[] {p, near(4)};
             case "trace": return new Object[] {near(4)};
-            case "go": return new Object[] {near(4)};
+            case "go": return new Object[] {random.nextInt(20) == 0 ? near(4) : usedThread()};
             case "look": return new Object[] {l, near(6)};
             case "given": return new Object[] {l, random.nextInt(10) == 0 ? random.nextInt(210) - 5 : random.nextInt(8)};
             case "many": return new Object[] {near(5)};
-            case "findings": return new Object[] {1 + near(5)};
+            case "findings": return new Object[] {near(5) + 1};
             case "firings": case "draft": case "may": case "fire": return new Object[] {p};
             case "tear": return new Object[] {delay(p)};
             case "lacks": case "store": case "things": return new Object[] {l};
@@ -192,6 +231,10 @@ public final class ModelTest {
 
     private int count() {
         return random.nextInt(20) == 0 ? random.nextInt(54) - 1 : 1 + random.nextInt(4);
+    }
+
+    private int usedThread() {
+        return plain.parts.isEmpty() ? 0 : plain.parts.get(random.nextInt(plain.parts.size())).thread;
     }
 
     /** A DELAY for most calls that want one. */
