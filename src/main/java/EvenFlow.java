@@ -383,7 +383,7 @@ public final class EvenFlow {
 
     public int fire(int part) {
         Part p = graph.partAt(part);
-        return p == null ? BAD : does(p);
+        return p == null ? BAD : withFinding(works.attempt(p));
     }
 
     public long gave() {
@@ -417,7 +417,7 @@ public final class EvenFlow {
         if (p == null) {
             return STATE;
         }
-        int answer = does(p);
+        int answer = withFinding(works.attempt(p));
         if (answer == 1) {
             plan.threadNext[thread] = place + 1;
             return p.number;
@@ -511,8 +511,7 @@ public final class EvenFlow {
         return FINDING;
     }
 
-    private int does(Part p) {
-        int answer = works.attempt(p);
+    private int withFinding(int answer) {
         return answer == FINDING ? meets(works.met) : answer;
     }
 
@@ -524,11 +523,11 @@ public final class EvenFlow {
 
     /** 0 if there is a SCHEDULE; else what the calls answer that need one. */
     private int noSchedule() {
-        int no = noRound();
-        if (no != 0) {
-            return no;
+        int state = graph.roundState();
+        if (state == Graph.FOUND) {
+            return lack.isStuck() ? STATE : 0;
         }
-        return lack.isStuck() ? STATE : 0;
+        return state == NONE ? STATE : state;
     }
 
     private void graphChanged() {
@@ -557,7 +556,7 @@ public final class EvenFlow {
             a = b;
             b = rest;
         }
-        return Math.max(a, 1);
+        return a > 0 ? a : 1;
     }
 
     /** A PART: what was told of it, its FIRINGS in a ROUND, and what THE STATE holds of it. */
@@ -818,11 +817,6 @@ public final class EvenFlow {
             if (partCount == 0) {
                 return STATE;
             }
-            int tied = tieAll();
-            return tied == FOUND ? countFirings() : tied;
-        }
-
-        private int tieAll() {
             for (int p = 0; p < partCount; p++) {
                 group[p] = p;
                 setProportion(p, p, 1);
@@ -836,7 +830,7 @@ public final class EvenFlow {
                     return tied;
                 }
             }
-            return FOUND;
+            return countFirings();
         }
 
         private int tie(Line l) {
@@ -1696,6 +1690,8 @@ public final class EvenFlow {
         long latestGave;
         /** The FINDING that the latest WORK met; 0: none. */
         int met;
+        /** The sum of all that the WORK at hand took. */
+        private long taken;
         private final int[] traced = new int[MOST_BODIES];
         private int traceLength;
 
@@ -1739,6 +1735,7 @@ public final class EvenFlow {
             }
             traceLength = 0;
             met = 0;
+            taken = sumTaken(p);
             long v = workOf(p);
             if (met != 0) {
                 return FINDING;
@@ -1798,7 +1795,7 @@ public final class EvenFlow {
 
         private long fixedBody(Part p) {
             writeTrace(1);
-            return sumTaken(p) + p.k;
+            return taken + p.k;
         }
 
         private long scaledBody(Part p) {

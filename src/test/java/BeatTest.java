@@ -8,6 +8,8 @@ public final class BeatTest {
         time();
         ownRings();
         fractions();
+        lowestTerms();
+        manyWaits();
         phases();
         refused();
         due.end();
@@ -106,6 +108,36 @@ public final class BeatTest {
         beatIs(z, 6, 1);
         z.first(1, 4);
         beatIs(z, 5, 1);
+    }
+
+    /** Twice as many PARTS as things in a ring: its fraction is not in lowest terms. */
+    private static void lowestTerms() {
+        due.promise(29);
+        EvenFlow x = parts(6);
+        for (int p = 0; p < 6; p++) {
+            x.line(p, 1, (p + 1) % 6, 1);
+            x.first(p, p % 3 == 0 ? 1 : 0);
+        }
+        beatIs(x, 3, 1);
+        x.first(1, 2);
+        beatIs(x, 3, 2);
+    }
+
+    /** As many waits as there can be nearly, of which the last LINE's are those that count. */
+    private static void manyWaits() {
+        due.promise(29);
+        EvenFlow x = new EvenFlow();
+        x.part(PHASED, 0, 3);
+        x.part(FIXED, 0, 0);
+        for (int l = 0; l < 18; l++) {
+            x.line(0, 19, 1, 1);
+            x.first(l, 60);
+        }
+        x.line(1, 1, 0, 19);
+        x.first(18, 19);
+        beatIs(x, 57, 1);
+        x.line(0, 19, 1, 1);
+        beatIs(x, 60, 1);
     }
 
     private static void phases() {

@@ -16,6 +16,7 @@ public final class RoundsTest {
         stuck();
         lacks();
         schedule();
+        schedulePhases();
         refusedAsSchedule();
         least();
         leastRefused();
@@ -99,7 +100,9 @@ public final class RoundsTest {
     private static void spentByFirings() {
         due.promise(13);
         due.is(chain(50, 1, 20, 1).round(), 1051);
+        due.is(chain(1, 20, 1, 50).round(), 1051);
         due.is(chain(7, 1, 11, 1, 13, 1).round(), SPENT);
+        due.is(chain(1, 7, 1, 11, 1, 13).round(), SPENT);
         EvenFlow x = chain(25, 1, 40, 1);
         x.part(FIXED, 0, 0);
         x.line(1, 38, 3, 1);
@@ -141,6 +144,13 @@ public final class RoundsTest {
         z.line(3, 50, 4, 1);
         due.is(z.round(), NONE);
         due.is(z.uneven(), 0);
+        EvenFlow back = chain(1, 50, 1, 50, 1, 50, 1, 8);
+        back.line(0, 1, 0, 2);
+        due.is(back.uneven(), 4);
+        EvenFlow further = chain(1, 50, 1, 50, 1, 50, 1, 9);
+        further.line(0, 1, 0, 2);
+        due.is(further.uneven(), NONE);
+        due.is(further.round(), SPENT);
         rowsNotFirings();
         farApart();
     }
@@ -330,6 +340,29 @@ public final class RoundsTest {
         self.fire(0);
         due.is(self.schedule(0), 7);
         due.is(self.many(2), 1);
+    }
+
+    private static void schedulePhases() {
+        due.promise(18);
+        // PART 0 gives 1, 0, 4 things, round and round; PART 1 takes 2.
+        EvenFlow x = new EvenFlow();
+        x.part(PHASED, 0, 3);
+        x.part(FIXED, 0, 0);
+        x.line(0, 1, 1, 2);
+        x.count(0, false, 1, 0);
+        x.count(0, false, 2, 4);
+        due.is(x.schedule(0), 10);
+        due.are(latest(x), 0, 0, 0, 0, 0, 0, 1, 1, 1, 1, 1);
+        due.is(x.schedule(1), 5);
+        due.are(latest(x), 0, 0, 0, 1, 1, 0, 1, 0, 0, 1, 1);
+        due.is(x.schedule(2), 5);
+        due.are(latest(x), 0, 0, 0, 1, 0, 1, 0, 1, 0, 1, 1);
+        // A second time it begins with PHASE 0 again, also where it stopped in another one.
+        for (int p : new int[] {0, 0, 0, 1, 1, 0, 1, 0, 1}) {
+            x.draft(p);
+        }
+        due.is(x.check(), -18);
+        due.is(x.schedule(0), 10);
     }
 
     private static void refusedAsSchedule() {
