@@ -548,7 +548,7 @@ public final class EvenFlow {
         return from >= 0 && n >= 0 && from <= places.length && n <= places.length - from;
     }
 
-    /** The greatest number that divides both; both are at least 1. */
+    /** The greatest number that divides both: a, which is above 0, and b, which is not below it. */
     private static long commonDivisor(long a, long b) {
         // Euclid needs fewer than a hundred steps for any two longs.
         for (int step = 0; step < 100 && b != 0; step++) {
@@ -888,7 +888,7 @@ public final class EvenFlow {
             return inRound > MOST_IN_ROUND ? SPENT : FOUND;
         }
 
-        /** The fewest rows of PHASES of a PART with which all that it is tied to have whole ones (too many: any number above the limit). */
+        /** The fewest rows of PHASES of a PART with which all that it is tied to have whole ones, or some number above the limit. */
         private long fewestRows(int part) {
             long rows = 1;
             for (int p = 0; p < partCount && rows <= MOST_OF_ONE; p++) {
@@ -1618,7 +1618,7 @@ public final class EvenFlow {
             }
         }
 
-        /** Looks for a RING that is slower than the slowest so far: one whose sum of TIMES less ROUNDS at that beat is above 0. */
+        /** A RING is slower than the slowest so far if its sum of TIMES, less its ROUNDS at that beat, is above 0. */
         private boolean findSlowerRing() {
             Arrays.fill(reached, 0L);
             Arrays.fill(reachedBy, NONE);

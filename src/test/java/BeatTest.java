@@ -15,21 +15,13 @@ public final class BeatTest {
         due.end();
     }
 
-    private static EvenFlow parts(int n) {
-        EvenFlow x = new EvenFlow();
-        for (int p = 0; p < n; p++) {
-            x.part(FIXED, 0, 0);
-        }
-        return x;
-    }
-
     private static void beatIs(EvenFlow x, int upper, int lower) {
         due.are(new long[] {x.beat(false), x.beat(true)}, upper, lower);
     }
 
     private static void time() {
         due.promise(28);
-        EvenFlow x = parts(2);
+        EvenFlow x = Flows.parts(2);
         due.is(x.time(2, 1), BAD);
         due.is(x.time(-1, 1), BAD);
         due.is(x.time(0, -1), BAD);
@@ -47,7 +39,7 @@ public final class BeatTest {
 
     private static void ownRings() {
         due.promise(29);
-        EvenFlow x = parts(2);
+        EvenFlow x = Flows.parts(2);
         beatIs(x, 1, 1);
         x.time(1, 7);
         beatIs(x, 7, 1);
@@ -63,7 +55,7 @@ public final class BeatTest {
 
     /** Three PARTS in a ring with so many things on it. */
     private static EvenFlow ring(int things) {
-        EvenFlow x = parts(3);
+        EvenFlow x = Flows.parts(3);
         x.line(0, 1, 1, 1);
         x.line(1, 1, 2, 1);
         x.line(2, 1, 0, 1);
@@ -96,7 +88,7 @@ public final class BeatTest {
         y.first(4, 1);
         beatIs(y, 2, 1);
         // PART 0 waits for both FIRINGS of PART 1 in the ROUND before.
-        EvenFlow z = parts(2);
+        EvenFlow z = Flows.parts(2);
         z.line(0, 2, 1, 1);
         z.line(1, 1, 0, 2);
         z.first(1, 2);
@@ -113,7 +105,7 @@ public final class BeatTest {
     /** Twice as many PARTS as things in a ring: its fraction is not in lowest terms. */
     private static void lowestTerms() {
         due.promise(29);
-        EvenFlow x = parts(6);
+        EvenFlow x = Flows.parts(6);
         for (int p = 0; p < 6; p++) {
             x.line(p, 1, (p + 1) % 6, 1);
             x.first(p, p % 3 == 0 ? 1 : 0);
@@ -168,18 +160,18 @@ public final class BeatTest {
     private static void refused() {
         due.promise(29);
         due.is(new EvenFlow().beat(false), STATE);
-        EvenFlow uneven = parts(2);
+        EvenFlow uneven = Flows.parts(2);
         uneven.line(0, 1, 0, 2);
         due.is(uneven.beat(false), STATE);
         due.is(ring(0).beat(false), STATE);
         due.is(ring(0).beat(true), STATE);
-        EvenFlow spent = parts(3);
+        EvenFlow spent = Flows.parts(3);
         spent.line(0, 50, 1, 1);
         spent.line(1, 50, 2, 1);
         due.is(spent.beat(false), SPENT);
         spent.line(0, 1, 0, 1);
         due.is(spent.beat(true), SPENT);
-        EvenFlow many = parts(11);
+        EvenFlow many = Flows.parts(11);
         many.line(0, 50, 1, 1);
         beatIs(many, 50, 1);
         many.part(FIXED, 0, 0);

@@ -28,6 +28,15 @@ final class Due {
         }
     }
 
+    /** Of what is no answer: whether it holds. */
+    void holds(boolean holds, String otherwise) {
+        answers++;
+        if (!holds) {
+            wrong++;
+            System.out.println(otherwise);
+        }
+    }
+
     void end() {
         System.out.println(wrong == 0 ? answers + " answers are as due" : wrong + " answers are not as due");
         if (wrong != 0) {

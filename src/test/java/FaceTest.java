@@ -28,24 +28,14 @@ public final class FaceTest {
     };
     private static final String[] BANNED = {"throw", "throws", "try", "catch", "synchronized", "assert", "finally", "volatile", "var",
         "record", "System\\.out", "Integer\\.", "Long\\.", "\\w+Exact", "hashCode", "toString", "getClass", "random", "->", "::"};
-    private static int wrong;
+    private static final Due due = new Due();
 
     public static void main(String[] args) throws Exception {
         face();
         members();
         classes();
         source();
-        System.out.println(wrong == 0 ? "the face is as due" : wrong + " faults of the face");
-        if (wrong != 0) {
-            System.exit(1);
-        }
-    }
-
-    private static void wants(boolean holds, String what) {
-        if (!holds) {
-            wrong++;
-            System.out.println(what);
-        }
+        due.end();
     }
 
     private static String told(Method m) {
@@ -60,23 +50,23 @@ public final class FaceTest {
         Set<String> open = new TreeSet<>();
         for (Method m : EvenFlow.class.getDeclaredMethods()) {
             if (Modifier.isPublic(m.getModifiers())) {
-                wants(!Modifier.isStatic(m.getModifiers()), m + " is static");
+                due.holds(!Modifier.isStatic(m.getModifiers()), m + " is static");
                 open.add(told(m));
             }
         }
-        wants(open.equals(new TreeSet<>(Arrays.asList(FACE))), "the public methods are " + open);
-        wants(EvenFlow.class.getDeclaredConstructors().length == 1, "more than one constructor");
+        due.holds(open.equals(new TreeSet<>(Arrays.asList(FACE))), "the public methods are " + open);
+        due.holds(EvenFlow.class.getDeclaredConstructors().length == 1, "more than one constructor");
         Constructor<?> made = EvenFlow.class.getDeclaredConstructor();
-        wants(Modifier.isPublic(made.getModifiers()), "the constructor is not public");
+        due.holds(Modifier.isPublic(made.getModifiers()), "the constructor is not public");
         Set<String> constants = new TreeSet<>();
         for (Field f : EvenFlow.class.getDeclaredFields()) {
             if (Modifier.isPublic(f.getModifiers())) {
                 constants.add(f.getName() + " " + f.getInt(null));
             }
         }
-        Set<String> due = new TreeSet<>(Arrays.asList("BAD -1", "FULL -2", "FINDING -3", "STATE -4", "SPENT -6", "NONE -9"));
-        wants(constants.equals(due), "the constants are " + constants);
-        wants(Modifier.isFinal(EvenFlow.class.getModifiers()), "the class is not final");
+        Set<String> wanted = new TreeSet<>(Arrays.asList("BAD -1", "FULL -2", "FINDING -3", "STATE -4", "SPENT -6", "NONE -9"));
+        due.holds(constants.equals(wanted), "the constants are " + constants);
+        due.holds(Modifier.isFinal(EvenFlow.class.getModifiers()), "the class is not final");
     }
 
     private static void members() {
@@ -84,7 +74,7 @@ public final class FaceTest {
         all.addAll(Arrays.asList(EvenFlow.class.getDeclaredFields()));
         for (Member m : all) {
             int how = m.getModifiers();
-            wants(Modifier.isPublic(how) || Modifier.isPrivate(how) || m.isSynthetic(), m + " can be seen");
+            due.holds(Modifier.isPublic(how) || Modifier.isPrivate(how) || m.isSynthetic(), m + " can be seen");
         }
     }
 
@@ -94,11 +84,11 @@ public final class FaceTest {
             names.add(call.replaceAll("^\\w+ (\\w+)\\(.*", "$1"));
         }
         List<Class<?>> all = new ArrayList<>(Arrays.asList(EvenFlow.class.getDeclaredClasses()));
-        wants(all.size() <= 11, "too many classes");
+        due.holds(all.size() <= 11, "too many classes");
         for (Class<?> c : all) {
-            wants(Modifier.isStatic(c.getModifiers()) && !Modifier.isPublic(c.getModifiers()), c + " is open, or not static");
+            due.holds(Modifier.isStatic(c.getModifiers()) && !Modifier.isPublic(c.getModifiers()), c + " is open, or not static");
             for (Method m : c.getDeclaredMethods()) {
-                wants(!names.contains(m.getName()), m + " bears the name of a public one");
+                due.holds(!names.contains(m.getName()), m + " bears the name of a public one");
             }
         }
         all.add(EvenFlow.class);
@@ -106,35 +96,35 @@ public final class FaceTest {
             int own = 0;
             for (Field f : c.getDeclaredFields()) {
                 if (Modifier.isStatic(f.getModifiers())) {
-                    wants(Modifier.isFinal(f.getModifiers()), f + " is static and can change");
+                    due.holds(Modifier.isFinal(f.getModifiers()), f + " is static and can change");
                 } else {
                     own++;
                 }
             }
-            wants(own <= 20, c + " has " + own + " fields");
+            due.holds(own <= 20, c + " has " + own + " fields");
             for (Method m : c.getDeclaredMethods()) {
-                wants(m.getParameterCount() <= 7, m + " has many parameters");
-                wants(!Modifier.isPrivate(m.getModifiers()) || !names.contains(m.getName()), m + " bears the name of a public one");
+                due.holds(m.getParameterCount() <= 7, m + " has many parameters");
+                due.holds(!Modifier.isPrivate(m.getModifiers()) || !names.contains(m.getName()), m + " bears the name of a public one");
             }
         }
     }
 
     private static void source() throws Exception {
         String text = Files.readString(Path.of(SOURCE));
-        wants(text.chars().allMatch(c -> c < 128), "a sign above 127");
-        wants(!text.contains("package ") && text.indexOf("import") == text.lastIndexOf("import"), "a package line, or imports");
+        due.holds(text.chars().allMatch(c -> c < 128), "a sign above 127");
+        due.holds(!text.contains("package ") && text.indexOf("import") == text.lastIndexOf("import"), "a package line, or imports");
         String code = text.replaceAll("(?s)/\\*.*?\\*/", "").replaceAll("//[^\n]*", "");
         for (String word : BANNED) {
             String edged = Character.isLetter(word.charAt(0)) || word.startsWith("\\w") ? "\\b" + word : word;
             Matcher m = Pattern.compile(edged + (word.matches("[a-z]+") ? "\\b" : "")).matcher(code);
-            wants(!m.find(), "the source has " + word);
+            due.holds(!m.find(), "the source has " + word);
         }
         Matcher bodies = Pattern.compile("(?m)^( +)(?:public |private |static )*[\\w\\[\\]]+ \\w+\\([^)]*\\) \\{\n(?s:(.*?))\n\\1\\}").matcher(code);
         int methods = 0;
         while (bodies.find()) {
             methods++;
-            wants(bodies.group(2).split("\n").length <= 60, "a long method: " + bodies.group().split("\n")[0].trim());
+            due.holds(bodies.group(2).split("\n").length <= 60, "a long method: " + bodies.group().split("\n")[0].trim());
         }
-        wants(methods > 100, "only " + methods + " methods were seen");
+        due.holds(methods > 100, "only " + methods + " methods were seen");
     }
 }

@@ -9,7 +9,7 @@ import java.util.Map;
 
 /** The room that an object takes, and that calls make nothing anew but PARTS and LINES. */
 public final class RoomTest {
-    private static int wrong;
+    private static final Due due = new Due();
 
     public static void main(String[] args) throws Exception {
         EvenFlow x = new EvenFlow();
@@ -26,18 +26,9 @@ public final class RoomTest {
         int calls = askAll(y);
         long made = counter.getCurrentThreadAllocatedBytes() - before;
         System.out.println(calls + " calls made " + made + " bytes");
-        wants(calls > 400 && made < 1000, "calls make objects");
+        due.holds(calls > 400 && made < 1000, "calls make objects");
         room("the same behind its calls", y, 220, 24000);
-        if (wrong != 0) {
-            System.exit(1);
-        }
-    }
-
-    private static void wants(boolean holds, String what) {
-        if (!holds) {
-            wrong++;
-            System.out.println(what);
-        }
+        due.end();
     }
 
     private static void build(EvenFlow x) {
@@ -106,7 +97,7 @@ public final class RoomTest {
             }
         }
         System.out.println(when + ": " + seen.size() + " objects, " + places + " fields and elements");
-        wants(seen.size() <= mostObjects && places <= mostPlaces, "that is too many");
+        due.holds(seen.size() <= mostObjects && places <= mostPlaces, "that is too many");
     }
 
     private static void meet(Object o, Map<Object, Object> seen, Deque<Object> open) {

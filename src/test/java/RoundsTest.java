@@ -32,24 +32,6 @@ public final class RoundsTest {
         due.end();
     }
 
-    /** FIXED PARTS. */
-    private static EvenFlow parts(int n) {
-        EvenFlow x = new EvenFlow();
-        for (int p = 0; p < n; p++) {
-            x.part(FIXED, 0, 0);
-        }
-        return x;
-    }
-
-    /** PARTS in a row, with a LINE from each to the next: COUNTS two by two. */
-    private static EvenFlow chain(int... counts) {
-        EvenFlow x = parts(counts.length / 2 + 1);
-        for (int l = 0; l < counts.length / 2; l++) {
-            x.line(l, counts[2 * l], l + 1, counts[2 * l + 1]);
-        }
-        return x;
-    }
-
     private static long[] latest(EvenFlow x) {
         int n = Math.max(0, x.many(3));
         long[] row = new long[n];
@@ -60,21 +42,21 @@ public final class RoundsTest {
     }
 
     private static EvenFlow sticking() {
-        EvenFlow x = parts(2);
+        EvenFlow x = Flows.parts(2);
         x.line(0, 1, 1, 1);
         x.line(1, 1, 0, 1);
         return x;
     }
 
     private static EvenFlow unevenOne() {
-        EvenFlow x = parts(2);
+        EvenFlow x = Flows.parts(2);
         x.line(0, 1, 1, 1);
         x.line(0, 1, 1, 2);
         return x;
     }
 
     private static EvenFlow spentOne() {
-        return chain(50, 1, 50, 1);
+        return Flows.chain(50, 1, 50, 1);
     }
 
     private static void round() {
@@ -87,11 +69,11 @@ public final class RoundsTest {
         due.is(x.round(), 4);
         x.line(1, 2, 0, 3);
         due.is(x.round(), 3 + 2);
-        due.is(chain(2, 3, 1, 2).round(), 6);
-        due.is(chain(6, 4).round(), 5);
+        due.is(Flows.chain(2, 3, 1, 2).round(), 6);
+        due.is(Flows.chain(6, 4).round(), 5);
         due.is(unevenOne().round(), NONE);
         due.is(spentOne().round(), SPENT);
-        EvenFlow apart = parts(4);
+        EvenFlow apart = Flows.parts(4);
         apart.line(0, 1, 1, 7);
         apart.line(2, 1, 3, 5);
         due.is(apart.round(), 8 + 6);
@@ -99,11 +81,11 @@ public final class RoundsTest {
 
     private static void spentByFirings() {
         due.promise(13);
-        due.is(chain(50, 1, 20, 1).round(), 1051);
-        due.is(chain(1, 20, 1, 50).round(), 1051);
-        due.is(chain(7, 1, 11, 1, 13, 1).round(), SPENT);
-        due.is(chain(1, 7, 1, 11, 1, 13).round(), SPENT);
-        EvenFlow x = chain(25, 1, 40, 1);
+        due.is(Flows.chain(50, 1, 20, 1).round(), 1051);
+        due.is(Flows.chain(1, 20, 1, 50).round(), 1051);
+        due.is(Flows.chain(7, 1, 11, 1, 13, 1).round(), SPENT);
+        due.is(Flows.chain(1, 7, 1, 11, 1, 13).round(), SPENT);
+        EvenFlow x = Flows.chain(25, 1, 40, 1);
         x.part(FIXED, 0, 0);
         x.line(1, 38, 3, 1);
         x.part(FIXED, 0, 0);
@@ -114,7 +96,7 @@ public final class RoundsTest {
         x.part(FIXED, 0, 0);
         due.is(x.round(), SPENT);
         due.is(x.uneven(), NONE);
-        EvenFlow phased = chain(50, 1);
+        EvenFlow phased = Flows.chain(50, 1);
         phased.part(PHASED, 0, 4);
         phased.line(1, 40, 2, 2);
         due.is(phased.firings(2), 1000);
@@ -125,18 +107,18 @@ public final class RoundsTest {
 
     private static void spentByLines() {
         due.promise(13);
-        EvenFlow x = chain(50, 1, 50, 1, 50, 1, 8, 1);
+        EvenFlow x = Flows.chain(50, 1, 50, 1, 50, 1, 8, 1);
         due.is(x.round(), SPENT);
         x.line(0, 1, 0, 2);
         due.is(x.round(), NONE);
         due.is(x.uneven(), 4);
-        EvenFlow y = chain(50, 1, 50, 1, 50, 1, 9, 1);
+        EvenFlow y = Flows.chain(50, 1, 50, 1, 50, 1, 9, 1);
         y.line(0, 1, 0, 2);
         due.is(y.round(), SPENT);
         due.is(y.uneven(), NONE);
         due.is(y.firings(0), SPENT);
         due.is(y.stuck(), SPENT);
-        EvenFlow z = parts(5);
+        EvenFlow z = Flows.parts(5);
         z.line(0, 1, 0, 2);
         z.line(0, 50, 1, 1);
         z.line(1, 50, 2, 1);
@@ -144,10 +126,10 @@ public final class RoundsTest {
         z.line(3, 50, 4, 1);
         due.is(z.round(), NONE);
         due.is(z.uneven(), 0);
-        EvenFlow back = chain(1, 50, 1, 50, 1, 50, 1, 8);
+        EvenFlow back = Flows.chain(1, 50, 1, 50, 1, 50, 1, 8);
         back.line(0, 1, 0, 2);
         due.is(back.uneven(), 4);
-        EvenFlow further = chain(1, 50, 1, 50, 1, 50, 1, 9);
+        EvenFlow further = Flows.chain(1, 50, 1, 50, 1, 50, 1, 9);
         further.line(0, 1, 0, 2);
         due.is(further.uneven(), NONE);
         due.is(further.round(), SPENT);
@@ -157,7 +139,7 @@ public final class RoundsTest {
 
     /** The proportion is that of rows of PHASES: 4000000 FIRINGS to 1 are 1000000 rows to 1. */
     private static void rowsNotFirings() {
-        EvenFlow x = chain(50, 1, 50, 1, 50, 1);
+        EvenFlow x = Flows.chain(50, 1, 50, 1, 50, 1);
         x.part(PHASED, 0, 4);
         x.line(3, 32, 4, 1);
         x.line(0, 1, 0, 2);
@@ -166,7 +148,7 @@ public final class RoundsTest {
 
     /** Two PARTS that only a LINE between others ties. */
     private static void farApart() {
-        EvenFlow x = parts(6);
+        EvenFlow x = Flows.parts(6);
         x.line(0, 50, 1, 1);
         x.line(1, 50, 2, 1);
         x.line(3, 50, 4, 1);
@@ -179,7 +161,7 @@ public final class RoundsTest {
 
     private static void firings() {
         due.promise(14);
-        EvenFlow x = chain(2, 3, 1, 2);
+        EvenFlow x = Flows.chain(2, 3, 1, 2);
         due.is(x.firings(0), 3);
         due.is(x.firings(1), 2);
         due.is(x.firings(2), 1);
@@ -194,15 +176,15 @@ public final class RoundsTest {
     private static void uneven() {
         due.promise(15);
         due.is(new EvenFlow().uneven(), STATE);
-        due.is(chain(2, 3).uneven(), NONE);
+        due.is(Flows.chain(2, 3).uneven(), NONE);
         due.is(unevenOne().uneven(), 1);
-        EvenFlow x = chain(2, 3, 1, 2);
+        EvenFlow x = Flows.chain(2, 3, 1, 2);
         x.line(2, 3, 0, 1);
         due.is(x.uneven(), NONE);
         x.line(2, 1, 0, 3);
         x.line(0, 9, 2, 1);
         due.is(x.uneven(), 3);
-        EvenFlow self = parts(1);
+        EvenFlow self = Flows.parts(1);
         self.line(0, 2, 0, 2);
         due.is(self.uneven(), NONE);
         self.line(0, 2, 0, 3);
@@ -250,12 +232,12 @@ public final class RoundsTest {
         due.is(new EvenFlow().stuck(), STATE);
         due.is(unevenOne().stuck(), STATE);
         due.is(spentOne().stuck(), SPENT);
-        due.is(chain(2, 3).stuck(), 0);
+        due.is(Flows.chain(2, 3).stuck(), 0);
         EvenFlow x = sticking();
         due.is(x.stuck(), 1);
         x.first(0, 1);
         due.is(x.stuck(), 0);
-        EvenFlow self = parts(1);
+        EvenFlow self = Flows.parts(1);
         self.line(0, 3, 0, 3);
         self.first(0, 2);
         due.is(self.stuck(), 1);
@@ -269,14 +251,14 @@ public final class RoundsTest {
         due.is(unevenOne().lacks(2), BAD);
         due.is(unevenOne().lacks(0), STATE);
         due.is(spentOne().lacks(0), SPENT);
-        due.is(chain(2, 3).lacks(0), 0);
+        due.is(Flows.chain(2, 3).lacks(0), 0);
         EvenFlow x = sticking();
         due.is(x.lacks(0), 0);
         due.is(x.lacks(1), 1);
         x.first(1, 1);
         due.is(x.lacks(1), 0);
         // PART 0 gets a thing first, which it does not need once PARTS 1 and 2 go.
-        EvenFlow y = parts(3);
+        EvenFlow y = Flows.parts(3);
         y.line(1, 1, 0, 1);
         y.line(2, 1, 1, 1);
         y.line(1, 1, 2, 1);
@@ -285,7 +267,7 @@ public final class RoundsTest {
         due.is(y.lacks(1), 1);
         due.is(y.lacks(2), 0);
         // Of two LINES that could lose it is the first that does.
-        EvenFlow z = parts(2);
+        EvenFlow z = Flows.parts(2);
         z.line(1, 2, 0, 2);
         z.line(0, 3, 0, 3);
         z.line(0, 2, 1, 2);
@@ -298,7 +280,7 @@ public final class RoundsTest {
         due.is(z.ends(0, 4), 0);
         due.is(z.stuck(), 1);
         // 50 FIRINGS of PART 0 that wait for PART 1, which waits for all of them.
-        EvenFlow w = parts(2);
+        EvenFlow w = Flows.parts(2);
         w.line(1, 50, 0, 1);
         w.line(0, 1, 1, 50);
         due.is(w.lacks(0), 50);
@@ -307,14 +289,14 @@ public final class RoundsTest {
 
     private static void schedule() {
         due.promise(18);
-        EvenFlow x = chain(2, 3, 1, 2);
+        EvenFlow x = Flows.chain(2, 3, 1, 2);
         due.is(x.schedule(-1), BAD);
         due.is(x.schedule(3), BAD);
         due.is(x.schedule(0), 6 + 2);
         due.are(latest(x), 0, 0, 0, 1, 1, 2);
         due.is(x.schedule(1), 4 + 2);
         due.are(latest(x), 0, 0, 1, 0, 1, 2);
-        EvenFlow y = chain(1, 2);
+        EvenFlow y = Flows.chain(1, 2);
         y.part(FIXED, 0, 0);
         due.is(y.schedule(0), 2);
         due.are(latest(y), 0, 0, 1, 2);
@@ -332,7 +314,7 @@ public final class RoundsTest {
         due.is(z.schedule(2), 0);
         due.are(latest(z), 0, 1, 0, 1);
         // What a LINE has at first counts, and a PART's own LINE does not grow in between.
-        EvenFlow self = parts(1);
+        EvenFlow self = Flows.parts(1);
         self.line(0, 5, 0, 5);
         self.first(0, 7);
         due.is(self.schedule(0), 7);
@@ -372,12 +354,12 @@ public final class RoundsTest {
         due.is(unevenOne().schedule(0), STATE);
         due.is(spentOne().schedule(0), SPENT);
         due.is(sticking().schedule(0), STATE);
-        EvenFlow x = chain(50, 1, 50, 1);
+        EvenFlow x = Flows.chain(50, 1, 50, 1);
         x.line(0, 1, 0, 1);
         due.is(x.schedule(0), SPENT);
         x.line(0, 1, 0, 2);
         due.is(x.schedule(0), STATE);
-        EvenFlow kept = chain(2, 3);
+        EvenFlow kept = Flows.chain(2, 3);
         kept.schedule(0);
         due.is(kept.schedule(9), BAD);
         due.is(kept.many(3), 5);
@@ -385,21 +367,21 @@ public final class RoundsTest {
 
     private static void least() {
         due.promise(19);
-        EvenFlow x = chain(2, 3, 1, 2);
+        EvenFlow x = Flows.chain(2, 3, 1, 2);
         due.is(x.least(0), BAD);
         due.is(x.least(20001), BAD);
         due.is(x.least(20000), 6);
         due.are(latest(x), 0, 0, 1, 0, 1, 2);
         // All SCHEDULES are equal: it is the first one, and what is tried behind it is left at once.
-        EvenFlow y = parts(2);
+        EvenFlow y = Flows.parts(2);
         due.is(y.least(3), 0);
         due.are(latest(y), 0, 1);
         due.is(y.tries(), 3);
         due.is(y.least(2), SPENT);
         due.is(y.tries(), 2);
         due.are(latest(y), 0, 1);
-        due.is(chain(40, 1).least(20000), STATE);
-        due.is(chain(39, 1).least(20000), 39);
+        due.is(Flows.chain(40, 1).least(20000), STATE);
+        due.is(Flows.chain(39, 1).least(20000), 39);
     }
 
     private static void leastRefused() {
@@ -409,15 +391,15 @@ public final class RoundsTest {
         due.is(unevenOne().least(1), STATE);
         due.is(spentOne().least(1), SPENT);
         due.is(sticking().least(1), STATE);
-        due.is(parts(8).least(1), SPENT);
-        due.is(parts(9).least(20000), STATE);
-        EvenFlow x = parts(9);
+        due.is(Flows.parts(8).least(1), SPENT);
+        due.is(Flows.parts(9).least(20000), STATE);
+        EvenFlow x = Flows.parts(9);
         x.line(0, 50, 1, 1);
         x.line(1, 50, 2, 1);
         due.is(x.round(), SPENT);
         due.is(x.least(5), STATE);
         due.is(x.least(0), BAD);
-        EvenFlow y = parts(2);
+        EvenFlow y = Flows.parts(2);
         y.schedule(0);
         due.is(y.least(1), SPENT);
         due.is(y.many(3), 2);
@@ -425,7 +407,7 @@ public final class RoundsTest {
 
     private static void tries() {
         due.promise(20);
-        EvenFlow x = chain(2, 3, 1, 2);
+        EvenFlow x = Flows.chain(2, 3, 1, 2);
         due.is(x.tries(), 0);
         x.least(0);
         due.is(x.tries(), 0);
@@ -459,7 +441,7 @@ public final class RoundsTest {
 
     private static void once() {
         due.promise(21);
-        EvenFlow x = chain(2, 3, 2, 1);
+        EvenFlow x = Flows.chain(2, 3, 2, 1);
         due.is(x.once(), 6 + 2);
         due.are(latest(x), 0, 0, 0, 1, 2, 2, 1, 2, 2);
         due.is(x.store(0), 6);
@@ -467,13 +449,13 @@ public final class RoundsTest {
         x.first(1, 5);
         due.is(x.once(), 6 + 2 + 5);
         due.is(x.store(1), 7);
-        EvenFlow order = parts(3);
+        EvenFlow order = Flows.parts(3);
         order.line(2, 1, 0, 1);
         due.is(order.once(), 1);
         due.are(latest(order), 1, 2, 0);
         due.are(brackets(order, 4), -2, -3, -1, NONE);
         // A LINE that goes over others is in the widest row: its things are stored by that row's g.
-        EvenFlow wide = chain(2, 1, 1, 1);
+        EvenFlow wide = Flows.chain(2, 1, 1, 1);
         wide.line(0, 2, 2, 1);
         due.is(wide.once(), 2 + 1 + 2);
         due.are(brackets(wide, 6), -1, 3, -2, -3, 0, NONE);
@@ -485,7 +467,7 @@ public final class RoundsTest {
         due.is(unevenOne().once(), STATE);
         due.is(spentOne().once(), SPENT);
         due.is(sticking().once(), NONE);
-        EvenFlow self = parts(1);
+        EvenFlow self = Flows.parts(1);
         self.line(0, 1, 0, 1);
         due.is(self.once(), NONE);
         self.first(0, 1);
@@ -504,7 +486,7 @@ public final class RoundsTest {
 
     private static void bracket() {
         due.promise(22);
-        EvenFlow x = chain(2, 3, 2, 1);
+        EvenFlow x = Flows.chain(2, 3, 2, 1);
         due.is(x.bracket(0), NONE);
         x.schedule(0);
         due.is(x.bracket(0), NONE);
@@ -513,7 +495,7 @@ public final class RoundsTest {
         due.is(x.bracket(-1), NONE);
         x.schedule(1);
         due.is(x.bracket(0), 4);
-        EvenFlow many = parts(12);
+        EvenFlow many = Flows.parts(12);
         due.is(many.once(), 0);
         due.are(brackets(many, 13), -1, -2, -3, -4, -5, -6, -7, -8, -9, -10, -11, -12, NONE);
         shortestFirstHalf();
@@ -521,26 +503,26 @@ public final class RoundsTest {
 
     private static void shortestFirstHalf() {
         // Parted behind PART 0 it stores as much as behind PART 1, where PARTS 1 and 2 would not be done together.
-        EvenFlow x = parts(3);
+        EvenFlow x = Flows.parts(3);
         x.line(0, 3, 2, 1);
         x.line(0, 3, 1, 1);
         due.is(x.once(), 6);
         due.are(brackets(x, 6), -1, 4, -2, -3, 0, NONE);
         // Parted behind PART 1, PARTS 0 and 1 would be done together twice, for the same sum.
-        EvenFlow y = parts(3);
+        EvenFlow y = Flows.parts(3);
         y.line(1, 1, 2, 4);
         y.line(0, 1, 2, 6);
         due.is(y.once(), 10);
         due.are(brackets(y, 8), 7, -1, 0, 5, -2, 0, -3, NONE);
         // A row inside a row: 4, 2, 4 FIRINGS, twice half of each.
-        EvenFlow z = chain(4, 1, 1, 2, 2, 1);
+        EvenFlow z = Flows.chain(4, 1, 1, 2, 2, 1);
         due.is(z.once(), 4 + 2 + 2);
         due.are(brackets(z, 11), -1, 3, 3, -2, 0, -3, 3, -4, 0, 0, NONE);
     }
 
     private static void firing() {
         due.promise(23);
-        EvenFlow x = chain(2, 3);
+        EvenFlow x = Flows.chain(2, 3);
         due.is(x.firing(0), NONE);
         x.schedule(1);
         due.are(latest(x), 0, 0, 1, 0, 1);
@@ -562,7 +544,7 @@ public final class RoundsTest {
 
     private static void store() {
         due.promise(24);
-        EvenFlow x = chain(2, 3, 1, 2);
+        EvenFlow x = Flows.chain(2, 3, 1, 2);
         due.is(x.store(0), NONE);
         due.is(x.store(2), BAD);
         due.is(x.store(-1), BAD);
@@ -572,7 +554,7 @@ public final class RoundsTest {
         due.is(x.store(2), BAD);
         x.least(100);
         due.is(x.store(0), 4);
-        EvenFlow kept = chain(1, 1);
+        EvenFlow kept = Flows.chain(1, 1);
         kept.first(0, 9);
         kept.schedule(0);
         due.is(kept.store(0), 10);
@@ -582,7 +564,7 @@ public final class RoundsTest {
 
     private static void marking() {
         due.promise(25);
-        EvenFlow x = chain(2, 3, 1, 2);
+        EvenFlow x = Flows.chain(2, 3, 1, 2);
         due.is(x.marking(0, 0), NONE);
         due.is(x.marking(0, 2), BAD);
         x.first(1, 1);
@@ -612,7 +594,7 @@ public final class RoundsTest {
 
     private static void draft() {
         due.promise(26);
-        EvenFlow x = chain(2, 3);
+        EvenFlow x = Flows.chain(2, 3);
         due.is(x.draft(2), BAD);
         due.is(x.draft(-1), BAD);
         for (int n = 1; n <= 200; n++) {
@@ -637,7 +619,7 @@ public final class RoundsTest {
 
     private static void check() {
         due.promise(27);
-        EvenFlow x = chain(2, 3, 1, 2);
+        EvenFlow x = Flows.chain(2, 3, 1, 2);
         due.is(x.check(), -10);
         due.is(checked(x, 1), -10);
         due.is(checked(x, 0, 1), -11);
