@@ -32,33 +32,6 @@ public final class RoundsTest {
         due.end();
     }
 
-    private static long[] latest(EvenFlow x) {
-        int n = Math.max(0, x.many(3));
-        long[] row = new long[n];
-        for (int i = 0; i < n; i++) {
-            row[i] = x.firing(i);
-        }
-        return row;
-    }
-
-    private static EvenFlow sticking() {
-        EvenFlow x = Flows.parts(2);
-        x.line(0, 1, 1, 1);
-        x.line(1, 1, 0, 1);
-        return x;
-    }
-
-    private static EvenFlow unevenOne() {
-        EvenFlow x = Flows.parts(2);
-        x.line(0, 1, 1, 1);
-        x.line(0, 1, 1, 2);
-        return x;
-    }
-
-    private static EvenFlow spentOne() {
-        return Flows.chain(50, 1, 50, 1);
-    }
-
     private static void round() {
         due.promise(13);
         EvenFlow x = new EvenFlow();
@@ -71,8 +44,8 @@ public final class RoundsTest {
         due.is(x.round(), 3 + 2);
         due.is(Flows.chain(2, 3, 1, 2).round(), 6);
         due.is(Flows.chain(6, 4).round(), 5);
-        due.is(unevenOne().round(), NONE);
-        due.is(spentOne().round(), SPENT);
+        due.is(Flows.uneven().round(), NONE);
+        due.is(Flows.spent().round(), SPENT);
         EvenFlow apart = Flows.parts(4);
         apart.line(0, 1, 1, 7);
         apart.line(2, 1, 3, 5);
@@ -168,16 +141,16 @@ public final class RoundsTest {
         due.is(x.firings(3), BAD);
         due.is(x.firings(-1), BAD);
         due.is(new EvenFlow().firings(0), BAD);
-        due.is(unevenOne().firings(0), NONE);
-        due.is(unevenOne().firings(2), BAD);
-        due.is(spentOne().firings(0), SPENT);
+        due.is(Flows.uneven().firings(0), NONE);
+        due.is(Flows.uneven().firings(2), BAD);
+        due.is(Flows.spent().firings(0), SPENT);
     }
 
     private static void uneven() {
         due.promise(15);
         due.is(new EvenFlow().uneven(), STATE);
         due.is(Flows.chain(2, 3).uneven(), NONE);
-        due.is(unevenOne().uneven(), 1);
+        due.is(Flows.uneven().uneven(), 1);
         EvenFlow x = Flows.chain(2, 3, 1, 2);
         x.line(2, 3, 0, 1);
         due.is(x.uneven(), NONE);
@@ -230,10 +203,10 @@ public final class RoundsTest {
     private static void stuck() {
         due.promise(16);
         due.is(new EvenFlow().stuck(), STATE);
-        due.is(unevenOne().stuck(), STATE);
-        due.is(spentOne().stuck(), SPENT);
+        due.is(Flows.uneven().stuck(), STATE);
+        due.is(Flows.spent().stuck(), SPENT);
         due.is(Flows.chain(2, 3).stuck(), 0);
-        EvenFlow x = sticking();
+        EvenFlow x = Flows.sticking();
         due.is(x.stuck(), 1);
         x.first(0, 1);
         due.is(x.stuck(), 0);
@@ -248,11 +221,11 @@ public final class RoundsTest {
     private static void lacks() {
         due.promise(17);
         due.is(new EvenFlow().lacks(0), BAD);
-        due.is(unevenOne().lacks(2), BAD);
-        due.is(unevenOne().lacks(0), STATE);
-        due.is(spentOne().lacks(0), SPENT);
+        due.is(Flows.uneven().lacks(2), BAD);
+        due.is(Flows.uneven().lacks(0), STATE);
+        due.is(Flows.spent().lacks(0), SPENT);
         due.is(Flows.chain(2, 3).lacks(0), 0);
-        EvenFlow x = sticking();
+        EvenFlow x = Flows.sticking();
         due.is(x.lacks(0), 0);
         due.is(x.lacks(1), 1);
         x.first(1, 1);
@@ -293,26 +266,26 @@ public final class RoundsTest {
         due.is(x.schedule(-1), BAD);
         due.is(x.schedule(3), BAD);
         due.is(x.schedule(0), 6 + 2);
-        due.are(latest(x), 0, 0, 0, 1, 1, 2);
+        due.are(Flows.latest(x), 0, 0, 0, 1, 1, 2);
         due.is(x.schedule(1), 4 + 2);
-        due.are(latest(x), 0, 0, 1, 0, 1, 2);
+        due.are(Flows.latest(x), 0, 0, 1, 0, 1, 2);
         EvenFlow y = Flows.chain(1, 2);
         y.part(FIXED, 0, 0);
         due.is(y.schedule(0), 2);
-        due.are(latest(y), 0, 0, 1, 2);
+        due.are(Flows.latest(y), 0, 0, 1, 2);
         due.is(y.schedule(1), 2);
-        due.are(latest(y), 2, 0, 0, 1);
+        due.are(Flows.latest(y), 2, 0, 0, 1);
         due.is(y.schedule(2), 2);
-        due.are(latest(y), 0, 2, 0, 1);
+        due.are(Flows.latest(y), 0, 2, 0, 1);
         EvenFlow z = new EvenFlow();
         z.part(PHASED, 0, 2);
         z.part(PHASED, 0, 2);
         due.is(z.schedule(0), 0);
-        due.are(latest(z), 0, 0, 1, 1);
+        due.are(Flows.latest(z), 0, 0, 1, 1);
         due.is(z.schedule(1), 0);
-        due.are(latest(z), 0, 0, 1, 1);
+        due.are(Flows.latest(z), 0, 0, 1, 1);
         due.is(z.schedule(2), 0);
-        due.are(latest(z), 0, 1, 0, 1);
+        due.are(Flows.latest(z), 0, 1, 0, 1);
         // What a LINE has at first counts, and a PART's own LINE does not grow in between.
         EvenFlow self = Flows.parts(1);
         self.line(0, 5, 0, 5);
@@ -334,11 +307,11 @@ public final class RoundsTest {
         x.count(0, false, 1, 0);
         x.count(0, false, 2, 4);
         due.is(x.schedule(0), 10);
-        due.are(latest(x), 0, 0, 0, 0, 0, 0, 1, 1, 1, 1, 1);
+        due.are(Flows.latest(x), 0, 0, 0, 0, 0, 0, 1, 1, 1, 1, 1);
         due.is(x.schedule(1), 5);
-        due.are(latest(x), 0, 0, 0, 1, 1, 0, 1, 0, 0, 1, 1);
+        due.are(Flows.latest(x), 0, 0, 0, 1, 1, 0, 1, 0, 0, 1, 1);
         due.is(x.schedule(2), 5);
-        due.are(latest(x), 0, 0, 0, 1, 0, 1, 0, 1, 0, 1, 1);
+        due.are(Flows.latest(x), 0, 0, 0, 1, 0, 1, 0, 1, 0, 1, 1);
         // A second time it begins with PHASE 0 again, also where it stopped in another one.
         for (int p : new int[] {0, 0, 0, 1, 1, 0, 1, 0, 1}) {
             x.draft(p);
@@ -351,9 +324,9 @@ public final class RoundsTest {
         due.promise(18);
         due.is(new EvenFlow().schedule(3), BAD);
         due.is(new EvenFlow().schedule(0), STATE);
-        due.is(unevenOne().schedule(0), STATE);
-        due.is(spentOne().schedule(0), SPENT);
-        due.is(sticking().schedule(0), STATE);
+        due.is(Flows.uneven().schedule(0), STATE);
+        due.is(Flows.spent().schedule(0), SPENT);
+        due.is(Flows.sticking().schedule(0), STATE);
         EvenFlow x = Flows.chain(50, 1, 50, 1);
         x.line(0, 1, 0, 1);
         due.is(x.schedule(0), SPENT);
@@ -371,15 +344,15 @@ public final class RoundsTest {
         due.is(x.least(0), BAD);
         due.is(x.least(20001), BAD);
         due.is(x.least(20000), 6);
-        due.are(latest(x), 0, 0, 1, 0, 1, 2);
+        due.are(Flows.latest(x), 0, 0, 1, 0, 1, 2);
         // All SCHEDULES are equal: it is the first one, and what is tried behind it is left at once.
         EvenFlow y = Flows.parts(2);
         due.is(y.least(3), 0);
-        due.are(latest(y), 0, 1);
+        due.are(Flows.latest(y), 0, 1);
         due.is(y.tries(), 3);
         due.is(y.least(2), SPENT);
         due.is(y.tries(), 2);
-        due.are(latest(y), 0, 1);
+        due.are(Flows.latest(y), 0, 1);
         due.is(Flows.chain(40, 1).least(20000), STATE);
         due.is(Flows.chain(39, 1).least(20000), 39);
     }
@@ -388,9 +361,9 @@ public final class RoundsTest {
         due.promise(19);
         due.is(new EvenFlow().least(0), BAD);
         due.is(new EvenFlow().least(1), STATE);
-        due.is(unevenOne().least(1), STATE);
-        due.is(spentOne().least(1), SPENT);
-        due.is(sticking().least(1), STATE);
+        due.is(Flows.uneven().least(1), STATE);
+        due.is(Flows.spent().least(1), SPENT);
+        due.is(Flows.sticking().least(1), STATE);
         due.is(Flows.parts(8).least(1), SPENT);
         due.is(Flows.parts(9).least(20000), STATE);
         EvenFlow x = Flows.parts(9);
@@ -431,19 +404,11 @@ public final class RoundsTest {
         due.is(x.tries(), 9);
     }
 
-    private static long[] brackets(EvenFlow x, int n) {
-        long[] items = new long[n];
-        for (int i = 0; i < n; i++) {
-            items[i] = x.bracket(i);
-        }
-        return items;
-    }
-
     private static void once() {
         due.promise(21);
         EvenFlow x = Flows.chain(2, 3, 2, 1);
         due.is(x.once(), 6 + 2);
-        due.are(latest(x), 0, 0, 0, 1, 2, 2, 1, 2, 2);
+        due.are(Flows.latest(x), 0, 0, 0, 1, 2, 2, 1, 2, 2);
         due.is(x.store(0), 6);
         due.is(x.store(1), 2);
         x.first(1, 5);
@@ -452,21 +417,21 @@ public final class RoundsTest {
         EvenFlow order = Flows.parts(3);
         order.line(2, 1, 0, 1);
         due.is(order.once(), 1);
-        due.are(latest(order), 1, 2, 0);
-        due.are(brackets(order, 4), -2, -3, -1, NONE);
+        due.are(Flows.latest(order), 1, 2, 0);
+        due.are(Flows.brackets(order, 4), -2, -3, -1, NONE);
         // A LINE that goes over others is in the widest row: its things are stored by that row's g.
         EvenFlow wide = Flows.chain(2, 1, 1, 1);
         wide.line(0, 2, 2, 1);
         due.is(wide.once(), 2 + 1 + 2);
-        due.are(brackets(wide, 6), -1, 3, -2, -3, 0, NONE);
+        due.are(Flows.brackets(wide, 6), -1, 3, -2, -3, 0, NONE);
     }
 
     private static void onceRefused() {
         due.promise(21);
         due.is(new EvenFlow().once(), STATE);
-        due.is(unevenOne().once(), STATE);
-        due.is(spentOne().once(), SPENT);
-        due.is(sticking().once(), NONE);
+        due.is(Flows.uneven().once(), STATE);
+        due.is(Flows.spent().once(), SPENT);
+        due.is(Flows.sticking().once(), NONE);
         EvenFlow self = Flows.parts(1);
         self.line(0, 1, 0, 1);
         due.is(self.once(), NONE);
@@ -491,13 +456,13 @@ public final class RoundsTest {
         x.schedule(0);
         due.is(x.bracket(0), NONE);
         x.once();
-        due.are(brackets(x, 10), 4, -1, 0, 3, -2, 3, -3, 0, 0, NONE);
+        due.are(Flows.brackets(x, 10), 4, -1, 0, 3, -2, 3, -3, 0, 0, NONE);
         due.is(x.bracket(-1), NONE);
         x.schedule(1);
         due.is(x.bracket(0), 4);
         EvenFlow many = Flows.parts(12);
         due.is(many.once(), 0);
-        due.are(brackets(many, 13), -1, -2, -3, -4, -5, -6, -7, -8, -9, -10, -11, -12, NONE);
+        due.are(Flows.brackets(many, 13), -1, -2, -3, -4, -5, -6, -7, -8, -9, -10, -11, -12, NONE);
         shortestFirstHalf();
     }
 
@@ -507,17 +472,17 @@ public final class RoundsTest {
         x.line(0, 3, 2, 1);
         x.line(0, 3, 1, 1);
         due.is(x.once(), 6);
-        due.are(brackets(x, 6), -1, 4, -2, -3, 0, NONE);
+        due.are(Flows.brackets(x, 6), -1, 4, -2, -3, 0, NONE);
         // Parted behind PART 1, PARTS 0 and 1 would be done together twice, for the same sum.
         EvenFlow y = Flows.parts(3);
         y.line(1, 1, 2, 4);
         y.line(0, 1, 2, 6);
         due.is(y.once(), 10);
-        due.are(brackets(y, 8), 7, -1, 0, 5, -2, 0, -3, NONE);
+        due.are(Flows.brackets(y, 8), 7, -1, 0, 5, -2, 0, -3, NONE);
         // A row inside a row: 4, 2, 4 FIRINGS, twice half of each.
         EvenFlow z = Flows.chain(4, 1, 1, 2, 2, 1);
         due.is(z.once(), 4 + 2 + 2);
-        due.are(brackets(z, 11), -1, 3, 3, -2, 0, -3, 3, -4, 0, 0, NONE);
+        due.are(Flows.brackets(z, 11), -1, 3, 3, -2, 0, -3, 3, -4, 0, 0, NONE);
     }
 
     private static void firing() {
@@ -525,19 +490,19 @@ public final class RoundsTest {
         EvenFlow x = Flows.chain(2, 3);
         due.is(x.firing(0), NONE);
         x.schedule(1);
-        due.are(latest(x), 0, 0, 1, 0, 1);
+        due.are(Flows.latest(x), 0, 0, 1, 0, 1);
         due.is(x.firing(5), NONE);
         due.is(x.firing(-1), NONE);
         due.is(x.firing(Integer.MAX_VALUE), NONE);
         x.once();
-        due.are(latest(x), 0, 0, 0, 1, 1);
+        due.are(Flows.latest(x), 0, 0, 0, 1, 1);
         x.least(1000);
-        due.are(latest(x), 0, 0, 1, 0, 1);
+        due.are(Flows.latest(x), 0, 0, 1, 0, 1);
         for (int p : new int[] {0, 0, 0, 1, 1}) {
             x.draft(p);
         }
         x.check();
-        due.are(latest(x), 0, 0, 0, 1, 1);
+        due.are(Flows.latest(x), 0, 0, 0, 1, 1);
         x.first(0, 0);
         due.is(x.firing(0), NONE);
     }
@@ -569,7 +534,7 @@ public final class RoundsTest {
         due.is(x.marking(0, 2), BAD);
         x.first(1, 1);
         x.schedule(0);
-        due.are(latest(x), 0, 0, 0, 1, 1, 2);
+        due.are(Flows.latest(x), 0, 0, 0, 1, 1, 2);
         int[] onFirst = {0, 2, 4, 6, 3, 0, 0};
         int[] onSecond = {1, 1, 1, 1, 2, 3, 1};
         for (int i = 0; i <= 6; i++) {
@@ -610,34 +575,27 @@ public final class RoundsTest {
         due.is(x.draft(2), 1);
     }
 
-    private static int checked(EvenFlow x, int... parts) {
-        for (int p : parts) {
-            x.draft(p);
-        }
-        return x.check();
-    }
-
     private static void check() {
         due.promise(27);
         EvenFlow x = Flows.chain(2, 3, 1, 2);
         due.is(x.check(), -10);
-        due.is(checked(x, 1), -10);
-        due.is(checked(x, 0, 1), -11);
-        due.is(checked(x, 0, 0, 0, 0), -13);
-        due.is(checked(x, 0, 0, 0, 1, 1), -15);
+        due.is(Flows.checked(x, 1), -10);
+        due.is(Flows.checked(x, 0, 1), -11);
+        due.is(Flows.checked(x, 0, 0, 0, 0), -13);
+        due.is(Flows.checked(x, 0, 0, 0, 1, 1), -15);
         due.is(x.many(3), NONE);
-        due.is(checked(x, 0, 0, 1, 0, 1, 2), 6);
-        due.are(latest(x), 0, 0, 1, 0, 1, 2);
-        due.is(checked(x, 0, 0, 1, 0, 1, 2, 0), -16);
+        due.is(Flows.checked(x, 0, 0, 1, 0, 1, 2), 6);
+        due.are(Flows.latest(x), 0, 0, 1, 0, 1, 2);
+        due.is(Flows.checked(x, 0, 0, 1, 0, 1, 2, 0), -16);
         due.is(x.many(3), 6);
         due.is(x.store(0), 4);
         due.is(new EvenFlow().check(), STATE);
-        EvenFlow bad = unevenOne();
-        due.is(checked(bad, 0, 1), STATE);
+        EvenFlow bad = Flows.uneven();
+        due.is(Flows.checked(bad, 0, 1), STATE);
         due.is(bad.many(4), 0);
-        EvenFlow spent = spentOne();
-        due.is(checked(spent, 0, 1), SPENT);
+        EvenFlow spent = Flows.spent();
+        due.is(Flows.checked(spent, 0, 1), SPENT);
         due.is(spent.many(4), 0);
-        due.is(checked(sticking(), 0), -10);
+        due.is(Flows.checked(Flows.sticking(), 0), -10);
     }
 }

@@ -9,6 +9,7 @@ public final class TermsEdgesTest {
 
     public static void main(String[] args) {
         calls();
+        sameInEveryOrder();
         refusedInOrder();
         constants();
         findings();
@@ -44,6 +45,32 @@ public final class TermsEdgesTest {
             due.is(x.fire(0), 1);
         }
         due.is(x.gave(), 510);
+    }
+
+    private static void sameInEveryOrder() {
+        due.says(0, "and the things themselves, the same in every order.");
+        int[][] orders = {{0, 1, 2}, {2, 1, 0}, {1, 2, 0}, {0, 0, 2, 1}, {2, 2, 1, 1, 0}};
+        long[][] all = new long[orders.length][];
+        for (int i = 0; i < orders.length; i++) {
+            EvenFlow x = Flows.one(KEEPER, 3, 0);
+            x.part(DELAY, 1, 2);
+            x.part(PHASED, 2, 2);
+            x.line(0, 2, 1, 1);
+            x.line(1, 1, 2, 2);
+            x.line(2, 2, 0, 2);
+            x.first(2, 4);
+            // 8 FIRINGS of PARTS 0 and 2, 16 of PART 1, as it comes.
+            int[] left = {8, 16, 8};
+            for (int step = 0; step < 200; step++) {
+                int p = orders[i][step % orders[i].length];
+                if (left[p] > 0 && x.fire(p) == 1) {
+                    left[p]--;
+                }
+            }
+            all[i] = new long[] {x.many(2), x.digest(), x.given(0, 15), x.asked(), x.given(1, 15), x.asked(), x.given(2, 15), x.asked()};
+            due.is(all[i][0], 32);
+            due.are(all[i], all[0]);
+        }
     }
 
     private static EvenFlow full() {

@@ -131,15 +131,6 @@ public final class ThingsTest {
         due.is(own.fire(0), STATE);
     }
 
-    /** A source that gives v .. to PART 1. */
-    private static EvenFlow fed(int kind, long k, int n, long v, int takes) {
-        EvenFlow x = new EvenFlow();
-        x.part(FIXED, v, 0);
-        x.part(kind, k, n);
-        x.line(0, takes, 1, takes);
-        return x;
-    }
-
     private static long workOf(EvenFlow x) {
         x.fire(0);
         x.fire(1);
@@ -148,16 +139,16 @@ public final class ThingsTest {
 
     private static void works() {
         due.promise(31);
-        due.is(workOf(fed(FIXED, 100, 0, 7, 3)), 7 + 8 + 9 + 100);
-        due.is(workOf(fed(SCALED, 10, 0, 7, 2)), 10 * (7 + 8 + 10));
-        due.is(workOf(fed(FIXED, Long.MAX_VALUE, 0, 1, 1)), Long.MIN_VALUE);
-        due.is(workOf(fed(FIXED, 0, 0, Long.MAX_VALUE, 2)), -1);
-        EvenFlow keeper = fed(KEEPER, 2, 0, 5, 1);
+        due.is(workOf(Flows.fed(FIXED, 100, 0, 7, 3)), 7 + 8 + 9 + 100);
+        due.is(workOf(Flows.fed(SCALED, 10, 0, 7, 2)), 10 * (7 + 8 + 10));
+        due.is(workOf(Flows.fed(FIXED, Long.MAX_VALUE, 0, 1, 1)), Long.MIN_VALUE);
+        due.is(workOf(Flows.fed(FIXED, 0, 0, Long.MAX_VALUE, 2)), -1);
+        EvenFlow keeper = Flows.fed(KEEPER, 2, 0, 5, 1);
         due.is(workOf(keeper), 14);
         due.is(workOf(keeper), 28);
         keeper.reset();
         due.is(workOf(keeper), 14);
-        EvenFlow phased = fed(PHASED, 3, 2, 5, 1);
+        EvenFlow phased = Flows.fed(PHASED, 3, 2, 5, 1);
         due.is(workOf(phased), 8);
         due.is(workOf(phased), 9);
         due.is(workOf(phased), 8);
@@ -181,12 +172,12 @@ public final class ThingsTest {
 
     private static void share() {
         due.promise(31);
-        due.is(workOf(fed(SHARE, 10, 0, 3, 1)), 10 * 13 / 3);
-        due.is(workOf(fed(SHARE, -10, 0, 3, 1)), 70 / 3);
-        due.is(workOf(fed(SHARE, 5, 0, -7, 1)), -10 / -7);
-        due.is(workOf(fed(SHARE, 2, 0, -9, 2)), 2 * (-9 - 8 + 2) / -9);
-        due.is(workOf(fed(SHARE, Long.MIN_VALUE, 0, -1, 1)), Long.MIN_VALUE);
-        EvenFlow zero = fed(SHARE, 1, 0, 0, 1);
+        due.is(workOf(Flows.fed(SHARE, 10, 0, 3, 1)), 10 * 13 / 3);
+        due.is(workOf(Flows.fed(SHARE, -10, 0, 3, 1)), 70 / 3);
+        due.is(workOf(Flows.fed(SHARE, 5, 0, -7, 1)), -10 / -7);
+        due.is(workOf(Flows.fed(SHARE, 2, 0, -9, 2)), 2 * (-9 - 8 + 2) / -9);
+        due.is(workOf(Flows.fed(SHARE, Long.MIN_VALUE, 0, -1, 1)), Long.MIN_VALUE);
+        EvenFlow zero = Flows.fed(SHARE, 1, 0, 0, 1);
         zero.fire(0);
         due.is(zero.fire(1), FINDING);
         due.is(zero.finding(), NOUGHT);
@@ -211,15 +202,15 @@ public final class ThingsTest {
 
     private static void delay() {
         due.promise(31);
-        EvenFlow x = fed(DELAY, 1, 2, 5, 1);
+        EvenFlow x = Flows.fed(DELAY, 1, 2, 5, 1);
         x.row(1, 0, 77);
         due.is(workOf(x), 77);
         due.is(workOf(x), 0);
         due.is(workOf(x), 6);
         x.reset();
         due.is(workOf(x), 77);
-        due.is(workOf(fed(DELAY, 1, 0, 5, 1)), 6);
-        EvenFlow one = fed(DELAY, 1, 1, 5, 1);
+        due.is(workOf(Flows.fed(DELAY, 1, 0, 5, 1)), 6);
+        EvenFlow one = Flows.fed(DELAY, 1, 1, 5, 1);
         due.is(workOf(one), 0);
         due.is(workOf(one), 6);
         x.tear(1);
@@ -246,10 +237,6 @@ public final class ThingsTest {
         due.is(x.gave(), 6);
     }
 
-    private static long[] traced(EvenFlow x) {
-        return new long[] {x.trace(0), x.trace(1), x.trace(2), x.trace(3)};
-    }
-
     private static void trace() {
         due.promise(33);
         EvenFlow x = new EvenFlow();
@@ -261,32 +248,32 @@ public final class ThingsTest {
         x.line(0, 1, SHARE, 1);
         for (int kind = 0; kind < 6; kind++) {
             due.is(x.fire(kind), 1);
-            due.are(traced(x), want[kind]);
+            due.are(Flows.trace(x, 4), want[kind]);
         }
         due.is(x.trace(-1), NONE);
         // What did not begin a WORK leaves it.
         due.is(x.fire(SHARE), 0);
         due.is(x.fire(9), BAD);
         x.reset();
-        due.are(traced(x), want[DELAY]);
+        due.are(Flows.trace(x, 4), want[DELAY]);
         // What met a FINDING wrote it anew.
         x.thing(0, 0, 0);
         x.first(0, 1);
         due.is(x.fire(SHARE), FINDING);
-        due.are(traced(x), 4, 2, 1, NONE);
+        due.are(Flows.trace(x, 4), 4, 2, 1, NONE);
         x.tear(DELAY);
         due.is(x.fire(DELAY), FINDING);
-        due.are(traced(x), 6, NONE, NONE, NONE);
+        due.are(Flows.trace(x, 4), 6, NONE, NONE, NONE);
         x.first(0, 0);
         x.deal(SHARE, 1);
         x.deal(DELAY, 2);
         x.schedule(0);
         due.is(x.go(0), 0);
-        due.are(traced(x), 1, NONE, NONE, NONE);
+        due.are(Flows.trace(x, 4), 1, NONE, NONE, NONE);
         due.is(x.go(0), 1);
-        due.are(traced(x), 2, 1, NONE, NONE);
+        due.are(Flows.trace(x, 4), 2, 1, NONE, NONE);
         due.is(x.go(2), FINDING);
-        due.are(traced(x), 6, NONE, NONE, NONE);
+        due.are(Flows.trace(x, 4), 6, NONE, NONE, NONE);
     }
 
     private static void deal() {
@@ -319,14 +306,6 @@ public final class ThingsTest {
         return x;
     }
 
-    private static long[] goes(EvenFlow x, int... threads) {
-        long[] all = new long[threads.length];
-        for (int i = 0; i < threads.length; i++) {
-            all[i] = x.go(threads[i]);
-        }
-        return all;
-    }
-
     private static void go() {
         due.promise(35);
         EvenFlow x = threaded();
@@ -335,7 +314,7 @@ public final class ThingsTest {
         due.is(x.go(0), STATE);
         x.schedule(0);
         due.is(x.go(2), STATE);
-        due.are(goes(x, 1, 0, 1, 0, 1, 1, 0, 0, 0, 1, 0), NONE, 0, NONE, 0, 1, NONE, 2, 0, 0, 1, 2);
+        due.are(Flows.goes(x, 1, 0, 1, 0, 1, 1, 0, 0, 0, 1, 0), NONE, 0, NONE, 0, 1, NONE, 2, 0, 0, 1, 2);
         due.is(x.many(2), 8);
         due.is(x.gave(), 0);
     }
@@ -344,25 +323,25 @@ public final class ThingsTest {
         due.promise(35);
         EvenFlow x = threaded();
         x.schedule(0);
-        due.are(goes(x, 0, 0), 0, 0);
+        due.are(Flows.goes(x, 0, 0), 0, 0);
         x.schedule(0);
-        due.are(goes(x, 0, 0, 0), 0, 0, 2);
-        due.are(goes(x, 0, 0), 0, 0);
+        due.are(Flows.goes(x, 0, 0, 0), 0, 0, 2);
+        due.are(Flows.goes(x, 0, 0), 0, 0);
         x.deal(2, 0);
-        due.are(goes(x, 0, 0, 0), 0, 0, 2);
-        due.are(goes(x, 0, 0), 0, 0);
+        due.are(Flows.goes(x, 0, 0, 0), 0, 0, 2);
+        due.are(Flows.goes(x, 0, 0), 0, 0);
         x.deal(2, 9);
         x.schedule(9);
-        due.are(goes(x, 0, 0), 2, 0);
+        due.are(Flows.goes(x, 0, 0), 2, 0);
         x.reset();
-        due.are(goes(x, 0, 0), 0, 0);
+        due.are(Flows.goes(x, 0, 0), 0, 0);
         due.is(x.things(0), 2);
         x.first(0, 1);
         due.is(x.go(0), STATE);
         x.schedule(0);
-        due.are(goes(x, 0, 0), 0, 0);
+        due.are(Flows.goes(x, 0, 0), 0, 0);
         x.thing(0, 0, 4);
-        due.are(goes(x, 0, 0, 0), 0, 0, 2);
+        due.are(Flows.goes(x, 0, 0, 0), 0, 0, 2);
     }
 
     private static void goRefused() {
