@@ -115,21 +115,32 @@ public final class BeatTest {
         beatIs(x, 3, 2);
     }
 
-    /** As many waits as there can be nearly, of which the last LINE's are those that count. */
+    /** As many waits as can count: the last LINE's last one is that which makes a RING of all 60 FIRINGS. */
     private static void manyWaits() {
         due.promise(29);
         EvenFlow x = new EvenFlow();
         x.part(PHASED, 0, 3);
         x.part(FIXED, 0, 0);
-        for (int l = 0; l < 18; l++) {
-            x.line(0, 19, 1, 1);
-            x.first(l, 60);
-        }
         x.line(1, 1, 0, 19);
-        x.first(18, 19);
-        beatIs(x, 57, 1);
-        x.line(0, 19, 1, 1);
+        x.first(0, 1);
+        int[] takes = {1, 50, 6};
+        int[] gives = {50, 6, 1};
+        for (int l = 1; l < 20; l++) {
+            if (l == 19) {
+                beatIs(x, 57, 1);
+            }
+            x.line(0, 19, 1, 1);
+            x.first(l, l < 19 ? 60 : 0);
+            for (int phase = 0; phase < 3; phase++) {
+                x.count(0, true, phase, takes[phase]);
+                x.count(l, false, phase, gives[phase]);
+            }
+        }
+        due.is(x.round(), 60);
         beatIs(x, 60, 1);
+        x.time(1, 1000);
+        x.time(0, 999);
+        beatIs(x, 57 * 1000 + 3 * 999, 1);
     }
 
     private static void phases() {

@@ -30,11 +30,13 @@ public final class RoundTermsEdgesTest {
         whatLacks();
         losesAgain();
         theLeast();
+        theLeastByPhases();
         triesAreLeft();
         onceRing();
         onceOrder();
         onceBrackets();
         onceStores();
+        onceAgain();
         shortestFirstHalf();
         times();
         waitsInRounds();
@@ -248,8 +250,10 @@ public final class RoundTermsEdgesTest {
         due.says(0, "in lowest terms, a number is above 1000000");
         isSpentByLines(Flows.chain(50, 49, 49, 48, 48, 47, 47, 46, 46, 45, 45, 44), false);
         isSpentByLines(Flows.chain(50, 1, 50, 1, 50, 1, 1, 50, 50, 1), false);
-        EvenFlow x = Flows.chain(50, 1, 50, 1, 50, 1, 50, 25, 25, 10);
-        isSpentByLines(x, false);
+        isSpentByLines(Flows.chain(50, 1, 50, 1, 50, 1, 50, 25, 25, 10), false);
+        isSpentByLines(Flows.chain(1, 50, 1, 50, 1, 50, 25, 50, 10, 25), false);
+        isSpentByLines(Flows.chain(6, 50, 6, 50, 6, 50, 6, 50, 6, 40), true);
+        isSpentByLines(Flows.chain(6, 50, 6, 50, 6, 50, 6, 48), false);
         isSpentByLines(Flows.chain(50, 1, 50, 1, 50, 1, 1, 50, 50, 1, 50, 1), true);
     }
 
@@ -304,6 +308,12 @@ public final class RoundTermsEdgesTest {
         due.is(Flows.chain(1, 50, 1, 20).round(), 1000 + 20 + 1);
         due.is(Flows.chain(7, 1, 11, 1, 13, 1).round(), SPENT);
         due.is(Flows.chain(1, 7, 1, 11, 1, 13).round(), SPENT);
+        // 1000 FIRINGS of PART 0 for PARTS 1 and 2, but 3000 for PART 3.
+        EvenFlow thrice = Flows.chain(1, 50, 1, 20);
+        thrice.part(FIXED, 0, 0);
+        thrice.line(0, 1, 3, 3);
+        due.is(thrice.round(), SPENT);
+        due.is(thrice.uneven(), NONE);
         EvenFlow rows = Flows.chain(50, 1);
         rows.part(PHASED, 0, 4);
         rows.line(1, 5, 2, 1);
@@ -546,6 +556,20 @@ public final class RoundTermsEdgesTest {
         due.are(lacks(y), 3, 0, 1, 0);
         y.first(1, 3);
         due.are(lacks(y), 0, 0, 1, 0);
+        // All of 50.
+        EvenFlow many = Flows.parts(3);
+        many.line(1, 50, 0, 50);
+        many.line(2, 1, 1, 1);
+        many.line(1, 1, 2, 1);
+        due.are(lacks(many), 0, 1, 0);
+        // 40 of 50.
+        EvenFlow some = Flows.parts(3);
+        some.line(1, 1, 0, 50);
+        some.line(0, 50, 1, 1);
+        some.line(2, 1, 1, 1);
+        some.line(1, 1, 2, 1);
+        some.first(1, 40);
+        due.are(lacks(some), 10, 0, 1, 0);
         // FIRST THINGS are not lost.
         EvenFlow z = Flows.ring(0, 0);
         z.line(0, 1, 1, 1);
@@ -571,6 +595,29 @@ public final class RoundTermsEdgesTest {
         z.part(FIXED, 0, 0);
         due.is(z.least(20000), 1);
         due.are(Flows.latest(z), 1, 0, 2);
+    }
+
+    /** PHASES are taken back with the TRIES that are left. */
+    private static void theLeastByPhases() {
+        due.says(0, "THE LEAST: of all SCHEDULES those with the least sum of STORES, of these the first one");
+        EvenFlow x = Flows.one(PHASED, 0, 4);
+        x.part(PHASED, 0, 3);
+        x.line(0, 1, 1, 1);
+        int[] gives = {3, 0, 2, 1};
+        int[] takes = {1, 4, 1};
+        for (int phase = 0; phase < 4; phase++) {
+            x.count(0, false, phase, gives[phase]);
+        }
+        for (int phase = 0; phase < 3; phase++) {
+            x.count(0, true, phase, takes[phase]);
+        }
+        // 3 things, one taken; 4, all taken; 1, taken.
+        due.is(x.least(20000), 4);
+        due.are(Flows.latest(x), 0, 0, 1, 0, 1, 0, 1);
+        x.first(0, 2);
+        // 2, one taken, then 4: all taken; 0, then 3, of which one is taken.
+        due.is(x.least(20000), 4);
+        due.are(Flows.latest(x), 1, 0, 0, 1, 0, 0, 1);
     }
 
     private static void triesAreLeft() {
@@ -661,6 +708,22 @@ public final class RoundTermsEdgesTest {
         due.is(x.store(2), 6);
     }
 
+    /** Another graph, another row: nothing of the one before is left. */
+    private static void onceAgain() {
+        due.says(0, "each time the least one to which no LINE leads from one that is left;");
+        EvenFlow x = Flows.parts(3);
+        due.is(x.once(), 0);
+        due.are(Flows.latest(x), 0, 1, 2);
+        x.line(2, 1, 0, 2);
+        due.is(x.once(), 2);
+        due.are(Flows.latest(x), 1, 2, 2, 0);
+        due.are(Flows.brackets(x, 6), -2, 3, -3, 0, -1, NONE);
+        x.line(0, 1, 1, 3);
+        due.is(x.once(), 2 + 3);
+        due.are(Flows.brackets(x, 9), 4, 3, -3, 0, -1, 0, -2, NONE, NONE);
+        due.are(Flows.latest(x), 2, 2, 0, 2, 2, 0, 2, 2, 0, 1);
+    }
+
     private static void shortestFirstHalf() {
         due.says(0, "The brackets with the least sum of STORES; of several ways to part a row the one with the shortest first half.");
         // 2, 4, 1 FIRINGS: behind PART 1 it is 2 + 4, behind PART 0 it is 4 + 4.
@@ -673,6 +736,15 @@ public final class RoundTermsEdgesTest {
         y.line(0, 1, 2, 6);
         due.is(y.once(), 10);
         due.are(Flows.brackets(y, 8), 7, -1, 0, 5, -2, 0, -3, NONE);
+        // 1, 12, 18, 4 FIRINGS: parted behind PART 0, then behind PART 2, then behind PART 1.
+        EvenFlow w = Flows.chain(12, 1, 3, 2, 2, 9);
+        due.is(w.once(), 12 + 6 + 18);
+        due.are(Flows.brackets(w, 16), -1, 3, 4, 3, -2, 0, 4, -3, 0, 0, 3, -4, 0, 0, NONE, NONE);
+        // Things, not FIRINGS, are stored: 2, 2, 1, and a LINE over PART 1.
+        EvenFlow v = Flows.chain(50, 50, 1, 2);
+        v.line(0, 1, 2, 2);
+        due.is(v.once(), 50 + 2 + 2);
+        due.are(Flows.brackets(v, 7), 3, -1, -2, 0, -3, NONE, NONE);
         // 2 FIRINGS of each but the last: all ways but the last one store less inside.
         EvenFlow z = Flows.parts(4);
         z.line(0, 1, 3, 2);
@@ -729,6 +801,32 @@ public final class RoundTermsEdgesTest {
         beatIs(y, 4, 1);
         y.first(1, 6);
         beatIs(y, 3, 1);
+        // A PART that gives nothing, nothing, 6 things: whoever needs one waits for its last PHASE.
+        EvenFlow late = Flows.one(PHASED, 0, 3);
+        late.part(FIXED, 0, 0);
+        late.line(0, 2, 1, 6);
+        late.count(0, false, 0, 0);
+        late.count(0, false, 1, 0);
+        late.count(0, false, 2, 6);
+        late.line(1, 6, 0, 2);
+        late.count(1, true, 0, 6);
+        late.count(1, true, 1, 0);
+        late.count(1, true, 2, 0);
+        late.first(1, 6);
+        late.time(1, 9);
+        beatIs(late, 9 + 3, 1);
+        late.count(0, false, 0, 6);
+        late.count(0, false, 2, 0);
+        beatIs(late, 9 + 1, 1);
+        // 6 things more: a ROUND more to wait.
+        late.first(0, 6);
+        beatIs(late, 9, 1);
+        late.first(0, 0);
+        late.count(0, false, 0, 0);
+        late.count(0, false, 1, 6);
+        beatIs(late, 9 + 2, 1);
+        late.first(1, 12);
+        beatIs(late, 9, 1);
     }
 
     private static void waitsIfItTakes() {

@@ -54,6 +54,14 @@ public final class RoundsEdgesTest {
         return x;
     }
 
+    /** No PART has more than 1000 FIRINGS, all together have 2001. */
+    private static EvenFlow tooManyInAll() {
+        EvenFlow x = Flows.chain(50, 1, 20, 1);
+        x.part(FIXED, 0, 0);
+        x.line(1, 19, 3, 1);
+        return x;
+    }
+
     private static void round() {
         due.says(13, "How many FIRINGS A ROUND has; NONE: it is UNEVEN. STATE: no PARTS; SPENT.");
         EvenFlow x = new EvenFlow();
@@ -95,9 +103,7 @@ public final class RoundsEdgesTest {
         z.line(0, 1, 0, 2);
         due.is(z.round(), NONE);
         // More than 2000 in all, and UNEVEN at the last LINE.
-        EvenFlow all = Flows.chain(50, 1, 20, 1);
-        all.part(FIXED, 0, 0);
-        all.line(1, 19, 3, 1);
+        EvenFlow all = tooManyInAll();
         due.is(all.round(), SPENT);
         all.line(3, 1, 3, 2);
         due.is(all.round(), NONE);
@@ -304,6 +310,7 @@ public final class RoundsEdgesTest {
         }
         x.part(FIXED, 0, 0);
         due.is(x.least(1), STATE);
+        due.is(tooManyInAll().least(1), SPENT);
         EvenFlow lines = Flows.spentByLines();
         lines.line(0, 1, 0, 2);
         due.is(lines.least(1), SPENT);
@@ -573,6 +580,20 @@ public final class RoundsEdgesTest {
         // FIRINGS that were done are no part of it.
         x.fire(0);
         due.is(x.marking(0, 0), 1);
+        // PHASES at both ends: 3, 0, 2, 1 things given, 1, 4, 1 taken.
+        EvenFlow y = Flows.one(PHASED, 0, 4);
+        y.part(PHASED, 0, 3);
+        y.line(0, 3, 1, 1);
+        y.count(0, false, 1, 0);
+        y.count(0, false, 2, 2);
+        y.count(0, false, 3, 1);
+        y.count(0, true, 1, 4);
+        due.is(Flows.checked(y, 0, 0, 1, 0, 1, 0, 1), 4);
+        long[] phased = new long[9];
+        for (int i = 0; i < 9; i++) {
+            phased[i] = y.marking(i, 0);
+        }
+        due.are(phased, 0, 3, 3, 2, 4, 0, 1, 0, NONE);
         x.first(0, 1);
         due.is(x.marking(0, 0), NONE);
     }
@@ -729,6 +750,7 @@ public final class RoundsEdgesTest {
             EvenFlow spent = Flows.spent();
             spent.line(0, 1, 0, 1);
             due.is(spent.beat(below), SPENT);
+            due.is(tooManyInAll().beat(below), SPENT);
             EvenFlow uneven = Flows.spent();
             uneven.line(0, 1, 0, 2);
             due.is(uneven.beat(below), STATE);

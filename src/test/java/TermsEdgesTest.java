@@ -441,6 +441,13 @@ public final class TermsEdgesTest {
         due.are(Flows.gives(Flows.one(PHASED, 10, 3), 0, 7), 10, 11, 12, 10, 11, 12, 10);
         due.are(Flows.gives(Flows.one(PHASED, 10, 1), 0, 2), 10, 10);
         due.are(Flows.gives(Flows.one(PHASED, MAX, 2), 0, 2), MAX, MIN);
+        EvenFlow x = Flows.fed(PHASED, 3, 4, 5, 1);
+        for (int i = 0; i < 9; i++) {
+            x.fire(0);
+            x.fire(1);
+            due.is(x.gave(), 5 + 3 + i % 4);
+            due.are(Flows.trace(x, 3), 5, 1, NONE);
+        }
     }
 
     private static void delay() {

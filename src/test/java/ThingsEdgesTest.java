@@ -112,6 +112,7 @@ public final class ThingsEdgesTest {
         x.part(FIXED, 0, 0);
         x.line(0, 1, 1, 2);
         x.part(SHARE, 0, 0);
+        x.part(FIXED, 0, 0);
         x.schedule(0);
         for (int i = 0; i < 1666; i++) {
             x.fire(0);
@@ -119,20 +120,22 @@ public final class ThingsEdgesTest {
             x.fire(1);
         }
         due.is(x.many(2), 4998);
-        due.is(x.fire(0), 1);
+        due.is(x.fire(3), 1);
         due.is(x.fire(1), 0);
         due.is(x.fire(2), FINDING);
         due.is(x.fire(0), 1);
-        due.is(x.gave(), 3334);
+        due.is(x.gave(), 3333);
         due.is(x.many(2), 5000);
         due.is(x.fire(0), STATE);
-        // Ahead of what a PART lacks, and of a FINDING; behind BAD.
-        x.fire(1);
+        // Ahead of what PART 1 lacks, and of a FINDING; behind BAD.
+        due.is(x.may(1), 0);
         due.is(x.fire(1), STATE);
         due.is(x.fire(2), STATE);
-        due.is(x.fire(3), BAD);
+        due.is(x.fire(4), BAD);
         due.is(x.findings(NOUGHT), 1);
         due.is(x.go(0), STATE);
+        due.is(x.gave(), 3333);
+        due.is(x.many(2), 5000);
         due.is(x.reset(), 5000);
         due.is(x.fire(1), 0);
         due.is(x.fire(0), 1);
