@@ -113,11 +113,15 @@ public final class GreatGraphsTest {
         }
     }
 
-    /** 11 PARTS that stand in brackets, row in row: as many items as there can be nearly. */
+    /** Two graphs of 12 PARTS with brackets, row in row: of the second one 11 PARTS and 9 rows have brackets of their own. */
     private static void fullBrackets() {
+        fullBrackets(34, 1, 32, 16, 48, 24, 8, 40, 20, 4, 28, 14, 2);
+        fullBrackets(52, 12, 20, 6, 1, 10, 12, 40, 48, 160, 192, 640, 768);
+    }
+
+    private static void fullBrackets(int items, int... firings) {
         EvenFlow x = new EvenFlow();
         PlainFlow y = new PlainFlow();
-        int[] firings = {1, 32, 16, 48, 24, 8, 40, 20, 4, 28, 14, 2};
         for (int p = 0; p < 12; p++) {
             x.part(0, 0, 0);
             y.part(0, 0, 0);
@@ -126,8 +130,10 @@ public final class GreatGraphsTest {
             tie(x, y, firings, p, p + 1);
         }
         same("full once", x.once(), y.once());
+        same("full brackets", y.once.size(), items);
         for (int i = 0; i < 64; i++) {
             same("full bracket " + i, x.bracket(i), y.bracket(i));
         }
+        same("full digest", x.digest(), y.digest());
     }
 }
