@@ -16,6 +16,7 @@ import java.util.regex.Pattern;
 /** The face that the document tells, and what of LANGUAGE.md can be seen from outside. */
 public final class FaceTest {
     private static final String SOURCE = "src/main/java/EvenFlow.java";
+    private static final Path DOCUMENT = Path.of("../shared/DOC.md");
     private static final String[] FACE = {
         "int part(int, long, int)", "int line(int, int, int, int)", "int count(int, boolean, int, int)", "int first(int, int)",
         "int thing(int, int, long)", "int row(int, int, long)", "int copy(int, int, int, int, int)", "int tear(int)",
@@ -32,6 +33,7 @@ public final class FaceTest {
 
     public static void main(String[] args) throws Exception {
         face();
+        faceOfDocument();
         members();
         classes();
         source();
@@ -67,6 +69,21 @@ public final class FaceTest {
         Set<String> wanted = new TreeSet<>(Arrays.asList("BAD -1", "FULL -2", "FINDING -3", "STATE -4", "SPENT -6", "NONE -9"));
         due.holds(constants.equals(wanted), "the constants are " + constants);
         due.holds(Modifier.isFinal(EvenFlow.class.getModifiers()), "the class is not final");
+    }
+
+    /** The face as the document has it, if it is there: what this test takes for it has not gone another way. */
+    private static void faceOfDocument() throws Exception {
+        if (!Files.exists(DOCUMENT)) {
+            return;
+        }
+        String text = Files.readString(DOCUMENT);
+        text = text.substring(text.indexOf("## The public face"), text.indexOf("## Terms"));
+        Set<String> calls = new TreeSet<>();
+        Matcher m = Pattern.compile("public (int|long) (\\w+)\\(([^)]*)\\);").matcher(text);
+        while (m.find()) {
+            calls.add(m.group(1) + " " + m.group(2) + "(" + m.group(3).replaceAll("(int|long|boolean) \\w+", "$1") + ")");
+        }
+        due.holds(calls.equals(new TreeSet<>(Arrays.asList(FACE))), "the document's face is " + calls);
     }
 
     private static void members() {
