@@ -225,6 +225,10 @@ public final class TermsEdgesTest {
         due.is(x.line(0, 51, 1, 1), BAD);
         due.is(x.line(0, 1, 1, 0), BAD);
         due.is(x.line(0, 1, 1, 51), BAD);
+        // 0 is for a PHASE: two COUNTS are told of each LINE, wherever it leads.
+        EvenFlow ofPhases = Flows.one(PHASED, 0, 2);
+        due.is(ofPhases.line(0, 0, 0, 1), BAD);
+        due.is(ofPhases.line(0, 1, 0, 0), BAD);
         due.is(x.line(0, 50, 1, 1), 0);
         due.is(x.line(0, 1, 1, 50), 1);
         x.fire(0);
